@@ -1,0 +1,22 @@
+import java.util.List;
+
+public final class Promise12ShapeAtTest {
+    public static void main(String[] args) {
+        MostlyCopying x = WordReads.heap();
+        List<Integer> before = Checks.state(x);
+        for (int word = 900; word < 1400; word++) {
+            check(x, word);
+        }
+        for (int word : Checks.FAR_INTS) {
+            check(x, word);
+        }
+        Checks.unchanged("shapeAt", x, before);
+        Checks.finish();
+    }
+
+    private static void check(MostlyCopying x, int word) {
+        int row = WordReads.rowOf(word);
+        int want = row < 0 ? 0 : 4 * WordReads.OBJECTS[row][2] + WordReads.OBJECTS[row][3];
+        Checks.due("shapeAt(" + word + ")", x.shapeAt(word), want);
+    }
+}
