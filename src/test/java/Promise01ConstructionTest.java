@@ -30,15 +30,20 @@ public final class Promise01ConstructionTest {
             {37, 37}, {59, 59}, {60, 60}, {61, 60}, {256, 60}, {Integer.MAX_VALUE, 60}
         };
         for (int[] c : cases) {
-            MostlyCopying x = new MostlyCopying(2, c[0]);
-            if (c[1] % 2 == 1) {
-                x.alloc(0, 0, 2);
-            }
-            for (int n = 0; n < 100; n++) {
-                x.alloc(0, 0, 1);
-            }
-            Checks.due("words that fit for capacity " + c[0], x.wordsUsed(), c[1]);
+            // Filled in twos, and in twos after a three: one of them hits the capacity exactly.
+            int even = filled(new MostlyCopying(2, c[0]), 1);
+            int odd = filled(new MostlyCopying(2, c[0]), 2);
+            Checks.due("even words that fit for " + c[0], even, c[1] - c[1] % 2);
+            Checks.due("odd words that fit for " + c[0], odd, c[1] - (c[1] + 1) % 2);
         }
+    }
+
+    private static int filled(MostlyCopying x, int rawsOfTheFirst) {
+        x.alloc(0, 0, rawsOfTheFirst);
+        for (int n = 0; n < 100; n++) {
+            x.alloc(0, 0, 1);
+        }
+        return x.wordsUsed();
     }
 
     private static void beginsEmpty() {
