@@ -259,7 +259,7 @@ public final class Promise07CollectTest {
         Checks.due("collect() of none", x.collect(), 0);
     }
 
-    /** Eight pages pinned with two words each, and a chain that moves: as many pages as can be. */
+    /** Eight pages pinned with two words each, and a chain that moves: 14 pages in use, 20 touched. */
     private static void stepsThroughTheHeapForLong() {
         MostlyCopying x = new MostlyCopying(8, 60);
         for (int i = 0; i < 8; i++) {
