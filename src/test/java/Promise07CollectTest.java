@@ -108,7 +108,7 @@ public final class Promise07CollectTest {
         Checks.due("alloc goes on after the last moved", x.alloc(1, 0, 2), 1035);
     }
 
-    /** 1 points to 2 and 3, 2 to 4, 3 to 5: the list is 1 2 3 4 5, depth first it were 1 2 4 3 5. */
+    /** 1 points to 3 and 4, 3 to 5, 4 to 6: they move as 3 4 5 6, depth first it were 3 5 4 6. */
     private static void listIsBreadthFirst() {
         MostlyCopying x = new MostlyCopying(8, 60);
         x.alloc(0, 2, 1);
