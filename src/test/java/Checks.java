@@ -1,5 +1,6 @@
 import java.util.ArrayList;
 import java.util.List;
+import java.util.function.IntSupplier;
 
 /** What the tests share: comparing answers, and the whole state that the public methods show. */
 final class Checks {
@@ -8,23 +9,52 @@ final class Checks {
         Integer.MAX_VALUE - 1, Integer.MAX_VALUE
     };
 
+    private static String sentence = "";
+    private static boolean told = true;
     private static int wrong = 0;
 
     private Checks() {
     }
 
+    /** The checks from here on are about this sentence of the document; a failure tells it. */
+    static void sentence(String words) {
+        sentence = words;
+        told = false;
+    }
+
     static void due(String call, int got, int want) {
         if (got != want) {
-            wrong++;
-            System.out.println(call + " answered " + got + ", due is " + want);
+            wrong(call + " answered " + got + ", due is " + want);
         }
     }
 
     static void that(String what, boolean holds) {
         if (!holds) {
-            wrong++;
-            System.out.println("does not hold: " + what);
+            wrong("does not hold: " + what);
         }
+    }
+
+    private static void wrong(String line) {
+        wrong++;
+        if (!told) {
+            System.out.println("broken: \"" + sentence + "\"");
+            told = true;
+        }
+        System.out.println("    " + line);
+    }
+
+    /** A call that is due to be refused: it answers its code and changes nothing that is seen. */
+    static void refused(String call, MostlyCopying x, IntSupplier made, int code) {
+        List<Integer> before = state(x);
+        due(call, made.getAsInt(), code);
+        unchanged("refused " + call, x, before);
+    }
+
+    /** A call that only looks: it answers as due and changes nothing that is seen. */
+    static void looks(String call, MostlyCopying x, IntSupplier made, int want) {
+        List<Integer> before = state(x);
+        due(call, made.getAsInt(), want);
+        unchanged(call, x, before);
     }
 
     /** Everything that can be seen of x, for telling whether a call changed something. */
@@ -52,6 +82,10 @@ final class Checks {
         return seen;
     }
 
+    static List<Integer> roots(MostlyCopying x) {
+        return state(x).subList(0, 10);
+    }
+
     /** The state without the roots, for the calls that change roots alone. */
     static List<Integer> heapState(MostlyCopying x) {
         List<Integer> seen = state(x);
@@ -64,6 +98,22 @@ final class Checks {
 
     static void heapUnchanged(String call, MostlyCopying x, List<Integer> before) {
         that("no object, field or page changes in " + call, heapState(x).equals(before));
+    }
+
+    static void rootsUnchanged(String call, MostlyCopying x, List<Integer> before) {
+        that("no root changes in " + call, roots(x).equals(before));
+    }
+
+    /** One field of the object at this word has another content now, and nothing else is changed. */
+    static void oneFieldChanges(String call, MostlyCopying x, List<Integer> before, int word) {
+        List<Integer> after = state(x);
+        int differences = 0;
+        for (int n = 0; n < before.size(); n++) {
+            differences += before.get(n).equals(after.get(n)) ? 0 : 1;
+        }
+        // The field is seen through each word of its object.
+        int size = 1 + x.shapeAt(word) / 4 + x.shapeAt(word) % 4;
+        due("number of things seen to change in " + call, differences, size);
     }
 
     static void finish() {

@@ -4,10 +4,18 @@ public final class Promise13FieldTest {
     public static void main(String[] args) {
         answersContents();
         answersZeroElsewhere();
+        takesAnyInts();
         Checks.finish();
     }
 
+    private static void contents() {
+        Checks.sentence("`field(word, k)` answers the content of field k, pointer or raw, of the "
+                + "object that `word` is inside; 0 if `word` is inside no object or that object "
+                + "has no field k.");
+    }
+
     private static void answersContents() {
+        contents();
         MostlyCopying x = new MostlyCopying(3, 60);
         x.alloc(0, 2, 1);
         x.alloc(1, 0, 3);
@@ -28,8 +36,8 @@ public final class Promise13FieldTest {
         Checks.unchanged("field", x, before);
     }
 
-    /** Every field of the heap holds something, so that a 0 comes from no field at all. */
-    private static void answersZeroElsewhere() {
+    /** Every field of this heap holds something, so that a 0 comes from no field at all. */
+    private static MostlyCopying filled() {
         MostlyCopying x = WordReads.heap();
         for (int[] object : WordReads.OBJECTS) {
             x.setRoot(0, object[0]);
@@ -38,33 +46,46 @@ public final class Promise13FieldTest {
                 x.put(0, k, 77);
             }
         }
+        return x;
+    }
+
+    private static void answersZeroElsewhere() {
+        contents();
+        MostlyCopying x = filled();
         List<Integer> before = Checks.state(x);
-        for (int word = 990; word < 1270; word++) {
-            for (int k = -300; k < 300; k++) {
-                check(x, word, k);
-            }
-            for (int k : Checks.FAR_INTS) {
-                check(x, word, k);
-            }
-        }
-        for (int word : Checks.FAR_INTS) {
-            for (int k : Checks.FAR_INTS) {
+        for (int word : WordReads.words()) {
+            for (int k = -3; k <= 6; k++) {
                 check(x, word, k);
             }
         }
         Checks.unchanged("field", x, before);
     }
 
-    private static void check(MostlyCopying x, int word, int k) {
-        int row = WordReads.rowOf(word);
-        int want = 0;
-        if (row >= 0 && k >= 0) {
-            int[] object = WordReads.OBJECTS[row];
-            if (k < object[2]) {
-                want = object[0];
-            } else if (k < object[2] + object[3]) {
-                want = 77;
+    private static void takesAnyInts() {
+        Checks.sentence("Both arguments may be any int.");
+        MostlyCopying x = filled();
+        List<Integer> before = Checks.state(x);
+        for (int word : WordReads.words()) {
+            for (int k = -300; k < 300; k += 7) {
+                check(x, word, k);
             }
+            for (int k : Heaps.badFields(3)) {
+                check(x, word, k);
+            }
+            // A wrong sum of the two would come back to a word in use.
+            check(x, word, 1000 - word - 1);
+            check(x, word, 2000 - word - 1);
+        }
+        Checks.unchanged("field", x, before);
+    }
+
+    private static void check(MostlyCopying x, int word, int k) {
+        int[] object = WordReads.objectAt(word);
+        int want = 0;
+        if (k >= 0 && k < object[2]) {
+            want = object[0];
+        } else if (k >= 0 && k < object[2] + object[3]) {
+            want = 77;
         }
         Checks.due("field(" + word + ", " + k + ")", x.field(word, k), want);
     }

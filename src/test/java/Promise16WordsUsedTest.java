@@ -1,35 +1,68 @@
-import java.util.List;
-
 public final class Promise16WordsUsedTest {
     public static void main(String[] args) {
-        MostlyCopying x = new MostlyCopying(2, 60);
-        Checks.due("wordsUsed()", x.wordsUsed(), 0);
-        x.alloc(0, 1, 2);
-        Checks.due("wordsUsed()", x.wordsUsed(), 4);
-        x.alloc(0, 0, 2);
-        Checks.due("wordsUsed()", x.wordsUsed(), 7);
-        x.alloc(0, 1, 0);
-        Checks.due("wordsUsed() without unused words", x.wordsUsed(), 9);
-        x.setRoot(0, 0);
-        List<Integer> before = Checks.state(x);
-        Checks.due("wordsUsed() with unreachable objects", x.wordsUsed(), 9);
-        Checks.unchanged("wordsUsed", x, before);
-        Checks.due("refused alloc", x.alloc(0, 2, 2), -5);
-        Checks.due("wordsUsed()", x.wordsUsed(), 9);
-        x.setRoot(0, 1003);
-        x.setRoot(1, 1008);
-        x.link(0, 0, 1);
-        x.setRoot(1, 0);
-        Checks.due("collect(), one moves", x.collect(), 0);
-        Checks.due("wordsUsed()", x.wordsUsed(), 9);
-        x.link(0, 0, 1);
-        Checks.due("collect(), one is discarded", x.collect(), 1);
-        Checks.due("wordsUsed()", x.wordsUsed(), 7);
-        for (int n = 0; n < 100; n++) {
-            x.alloc(1, 0, n == 0 ? 2 : 1);
-            Checks.that("never above the capacity", x.wordsUsed() <= 60);
-        }
-        Checks.due("wordsUsed() of a full heap", x.wordsUsed(), 60);
+        sumsAllPresentObjects();
+        unusedWordsDoNotCount();
+        neverAboveTheCapacity();
         Checks.finish();
+    }
+
+    private static void sumsAllPresentObjects() {
+        Checks.sentence("`wordsUsed()` answers the sum of the sizes of all present objects, "
+                + "unreachable ones included.");
+        MostlyCopying x = new MostlyCopying(2, 60);
+        Checks.looks("wordsUsed() of none", x, x::wordsUsed, 0);
+        int sum = 0;
+        for (int[] shape : Heaps.SHAPES) {
+            x.alloc(0, shape[0], shape[1]);
+            sum += 1 + shape[0] + shape[1];
+            Checks.looks("wordsUsed()", x, x::wordsUsed, sum);
+            x.setRoot(0, 0);
+            Checks.looks("wordsUsed(), an unreachable one more", x, x::wordsUsed, sum);
+            x.alloc(0, 2, 2);
+            x.alloc(2, 1, 0);
+            Checks.looks("wordsUsed(), refused allocs", x, x::wordsUsed, sum);
+        }
+        x.collect();
+        Checks.looks("wordsUsed(), all discarded", x, x::wordsUsed, 0);
+    }
+
+    /** Of three pages with gaps, the first is pinned, and the objects of the others move. */
+    private static void unusedWordsDoNotCount() {
+        Checks.sentence("Unused words of pages in use do not count.");
+        MostlyCopying x = new MostlyCopying(3, 60);
+        x.alloc(0, 2, 0);
+        x.alloc(1, 0, 1);
+        for (int k = 0; k < 2; k++) {
+            x.alloc(1, 0, 3);
+            x.alloc(2, 0, 1);
+            x.link(0, k, 1);
+        }
+        Checks.looks("wordsUsed() on pages with gaps", x, x::wordsUsed, 17);
+        x.setRoot(1, 0);
+        x.setRoot(2, 0);
+        Checks.due("collect()", x.collect(), 2);
+        Checks.looks("wordsUsed() after moves", x, x::wordsUsed, 13);
+        x.setRoot(1, 1000);
+        Checks.due("collect()", x.collect(), 0);
+        Checks.looks("wordsUsed() after moves", x, x::wordsUsed, 13);
+        x.setRoot(2, 0);
+        x.link(0, 0, 2);
+        Checks.due("collect()", x.collect(), 1);
+        Checks.looks("wordsUsed()", x, x::wordsUsed, 9);
+    }
+
+    private static void neverAboveTheCapacity() {
+        Checks.sentence("The answer is never above the capacity.");
+        for (int capacity = 16; capacity <= 60; capacity++) {
+            MostlyCopying x = new MostlyCopying(2, capacity);
+            for (int n = 0; n < 200; n++) {
+                int[] shape = Heaps.SHAPES[n * 5 % 9];
+                x.alloc(n % 2, shape[0], shape[1]);
+                Checks.that("at most " + capacity + " words used", x.wordsUsed() <= capacity);
+                if (n % 40 == 39) {
+                    x.collect();
+                }
+            }
+        }
     }
 }

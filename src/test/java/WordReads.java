@@ -1,3 +1,6 @@
+import java.util.ArrayList;
+import java.util.List;
+
 /** A heap for the promises that read through any int, with what lies at each of its words. */
 final class WordReads {
     /** start, serial, pointers, raws of every object of heap(). */
@@ -5,6 +8,8 @@ final class WordReads {
         {1000, 1, 1, 0}, {1002, 2, 1, 1}, {1005, 3, 0, 1}, {1016, 5, 0, 3}, {1020, 6, 3, 0},
         {1024, 7, 2, 1}, {1028, 8, 1, 2}, {1008, 9, 2, 0}
     };
+
+    private static final int[] NO_OBJECT = {0, 0, 0, 0};
 
     private WordReads() {
     }
@@ -29,14 +34,22 @@ final class WordReads {
         return x;
     }
 
-    /** The row of OBJECTS that the word is inside, or -1. */
-    static int rowOf(int word) {
-        for (int row = 0; row < OBJECTS.length; row++) {
-            int[] o = OBJECTS[row];
-            if (word >= o[0] && word - o[0] <= o[2] + o[3]) {
-                return row;
+    /** The row of OBJECTS that the word is inside; zeros where it is inside none. */
+    static int[] objectAt(int word) {
+        for (int[] object : OBJECTS) {
+            if (word >= object[0] && word - object[0] <= object[2] + object[3]) {
+                return object;
             }
         }
-        return -1;
+        return NO_OBJECT;
+    }
+
+    /** Every address, the ints around the addresses, and ints far from them. */
+    static List<Integer> words() {
+        List<Integer> words = new ArrayList<>(Heaps.noAddresses());
+        for (int word = 900; word < 1400; word++) {
+            words.add(word);
+        }
+        return words;
     }
 }
