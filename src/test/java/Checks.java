@@ -13,6 +13,14 @@ final class Checks {
     private static boolean told = true;
     private static int wrong = 0;
 
+    static {
+        // A call that throws is told with the sentence that it breaks, as a wrong answer is.
+        Thread.setDefaultUncaughtExceptionHandler((thread, thrown) -> {
+            wrong("threw " + thrown);
+            thrown.printStackTrace();
+        });
+    }
+
     private Checks() {
     }
 
@@ -48,13 +56,6 @@ final class Checks {
         List<Integer> before = state(x);
         due(call, made.getAsInt(), code);
         unchanged("refused " + call, x, before);
-    }
-
-    /** A call that only looks: it answers as due and changes nothing that is seen. */
-    static void looks(String call, MostlyCopying x, IntSupplier made, int want) {
-        List<Integer> before = state(x);
-        due(call, made.getAsInt(), want);
-        unchanged(call, x, before);
     }
 
     /** Everything that can be seen of x, for telling whether a call changed something. */

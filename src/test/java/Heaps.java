@@ -55,6 +55,26 @@ final class Heaps {
         };
     }
 
+    /** What no method shows, such as the next serial, is seen when a heap and its twin go on. */
+    static void goOnAlike(String calls, MostlyCopying x, MostlyCopying twin) {
+        Checks.that("it goes on as without the " + calls, future(x).equals(future(twin)));
+    }
+
+    /** Nothing is read before the end, for the case that a call which only looks does more. */
+    private static List<Integer> future(MostlyCopying x) {
+        List<Integer> answers = new ArrayList<>();
+        for (int n = 0; n < 24; n++) {
+            answers.add(x.alloc(n % 2, SHAPES[n % 9][0], SHAPES[n % 9][1]));
+            answers.add(x.link(0, n % 3, 1));
+            if (n % 4 == 3) {
+                x.setRoot(n / 4 % 2, 0);
+                answers.add(x.collect());
+            }
+        }
+        answers.addAll(Checks.state(x));
+        return answers;
+    }
+
     /** A heap of capacity 16 whose serials are all given, with the `last` newest, each of `raws`. */
     static MostlyCopying spent(int last, int raws) {
         MostlyCopying x = new MostlyCopying(2, 16);

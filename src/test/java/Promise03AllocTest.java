@@ -57,7 +57,7 @@ public final class Promise03AllocTest {
     /** A heap of this capacity with so many words used, from 6 on. */
     private static MostlyCopying filled(int capacity, int words) {
         MostlyCopying x = new MostlyCopying(2, capacity);
-        while (words - x.wordsUsed() > 4) {
+        for (int n = 0; n < 20 && words - x.wordsUsed() > 4; n++) {
             x.alloc(0, 0, words - x.wordsUsed() == 5 ? 1 : 2);
         }
         x.alloc(0, 0, words - x.wordsUsed() - 1);
@@ -197,6 +197,10 @@ public final class Promise03AllocTest {
         Checks.due("alloc(0, 0, 3)", x.alloc(0, 0, 3), 1000);
         Checks.due("pageState(0), was pinned once", x.pageState(0), 1);
         Checks.due("pageState(1), pinned", x.pageState(1), 2);
+        x.setRoot(2, 1020);
+        x.collect();
+        x.alloc(0, 0, 3);
+        Checks.due("pageState(2), a root points there", x.pageState(2), 1);
     }
 
     private static void neverCollects() {

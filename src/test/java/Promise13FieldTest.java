@@ -1,10 +1,15 @@
-import java.util.List;
-
 public final class Promise13FieldTest {
     public static void main(String[] args) {
         answersContents();
         answersZeroElsewhere();
         takesAnyInts();
+        WordReads.changeNothing("field", x -> {
+            for (int word : WordReads.words()) {
+                for (int k = -3; k <= 6; k++) {
+                    x.field(word, k);
+                }
+            }
+        });
         Checks.finish();
     }
 
@@ -25,7 +30,6 @@ public final class Promise13FieldTest {
         x.put(1, 0, -3);
         x.put(1, 1, 1000);
         x.put(1, 2, Integer.MAX_VALUE);
-        List<Integer> before = Checks.state(x);
         int[][] contents = {{1004, 1000, Integer.MIN_VALUE}, {-3, 1000, Integer.MAX_VALUE}};
         for (int word = 1000; word <= 1007; word++) {
             for (int k = 0; k < 3; k++) {
@@ -33,7 +37,6 @@ public final class Promise13FieldTest {
                 Checks.due("field(" + word + ", " + k + ")", x.field(word, k), want);
             }
         }
-        Checks.unchanged("field", x, before);
     }
 
     /** Every field of this heap holds something, so that a 0 comes from no field at all. */
@@ -52,19 +55,16 @@ public final class Promise13FieldTest {
     private static void answersZeroElsewhere() {
         contents();
         MostlyCopying x = filled();
-        List<Integer> before = Checks.state(x);
         for (int word : WordReads.words()) {
             for (int k = -3; k <= 6; k++) {
                 check(x, word, k);
             }
         }
-        Checks.unchanged("field", x, before);
     }
 
     private static void takesAnyInts() {
         Checks.sentence("Both arguments may be any int.");
         MostlyCopying x = filled();
-        List<Integer> before = Checks.state(x);
         for (int word : WordReads.words()) {
             for (int k = -300; k < 300; k += 7) {
                 check(x, word, k);
@@ -76,7 +76,6 @@ public final class Promise13FieldTest {
             check(x, word, 1000 - word - 1);
             check(x, word, 2000 - word - 1);
         }
-        Checks.unchanged("field", x, before);
     }
 
     private static void check(MostlyCopying x, int word, int k) {

@@ -4,6 +4,7 @@ public final class Promise15OpenAddressTest {
         answersZeroWhenNoneIsOpen();
         answersZeroWhenFull();
         answersASingleWord();
+        WordReads.changeNothing("openAddress", MostlyCopying::openAddress);
         Checks.finish();
     }
 
@@ -19,34 +20,34 @@ public final class Promise15OpenAddressTest {
             for (int size : Heaps.sizesThatFill(u)) {
                 x.alloc(0, 0, size - 1);
             }
-            Checks.looks("openAddress()", x, x::openAddress, 1000 + u);
+            Checks.due("openAddress()", x.openAddress(), 1000 + u);
             x.alloc(0, 0, 0);
             x.alloc(9, 0, 1);
-            Checks.looks("openAddress(), refused allocs", x, x::openAddress, 1000 + u);
+            Checks.due("openAddress(), refused allocs", x.openAddress(), 1000 + u);
             x.setRoot(0, 0);
-            Checks.looks("openAddress(), no root", x, x::openAddress, 1000 + u);
+            Checks.due("openAddress(), no root", x.openAddress(), 1000 + u);
         }
         MostlyCopying y = new MostlyCopying(2, 60);
         y.alloc(0, 0, 2);
         y.alloc(0, 0, 2);
         y.alloc(0, 0, 2);
-        Checks.looks("openAddress(), page 0 has room too", y, y::openAddress, 1011);
+        Checks.due("openAddress(), page 0 has room too", y.openAddress(), 1011);
     }
 
     private static void answersZeroWhenNoneIsOpen() {
         openAddress();
         MostlyCopying x = new MostlyCopying(2, 60);
-        Checks.looks("openAddress() of a new heap", x, x::openAddress, 0);
+        Checks.due("openAddress() of a new heap", x.openAddress(), 0);
         x.collect();
-        Checks.looks("openAddress() after collect()", x, x::openAddress, 0);
+        Checks.due("openAddress() after collect()", x.openAddress(), 0);
         x.alloc(0, 0, 1);
         x.collect();
-        Checks.looks("openAddress() when none was moved", x, x::openAddress, 0);
+        Checks.due("openAddress() when none was moved", x.openAddress(), 0);
         x.setRoot(0, 0);
         x.collect();
-        Checks.looks("openAddress() of an emptied heap", x, x::openAddress, 0);
+        Checks.due("openAddress() of an emptied heap", x.openAddress(), 0);
         x.alloc(0, 0, 1);
-        Checks.looks("openAddress(), open again", x, x::openAddress, 1002);
+        Checks.due("openAddress(), open again", x.openAddress(), 1002);
     }
 
     private static void answersZeroWhenFull() {
@@ -57,9 +58,9 @@ public final class Promise15OpenAddressTest {
             for (int size : sizes) {
                 x.alloc(0, 0, size - 1);
             }
-            Checks.looks("openAddress() of a full page", x, x::openAddress, 0);
+            Checks.due("openAddress() of a full page", x.openAddress(), 0);
             x.alloc(0, 0, 1);
-            Checks.looks("openAddress() of the next page", x, x::openAddress, 1010);
+            Checks.due("openAddress() of the next page", x.openAddress(), 1010);
         }
         MostlyCopying y = new MostlyCopying(2, 60);
         y.alloc(0, 2, 1);
@@ -70,7 +71,7 @@ public final class Promise15OpenAddressTest {
         }
         y.setRoot(1, 0);
         y.collect();
-        Checks.looks("openAddress() of a page full of moved ones", y, y::openAddress, 0);
+        Checks.due("openAddress() of a page full of moved ones", y.openAddress(), 0);
     }
 
     private static void answersASingleWord() {
@@ -82,10 +83,10 @@ public final class Promise15OpenAddressTest {
             for (int size : sizes) {
                 x.alloc(0, 0, size - 1);
             }
-            Checks.looks("openAddress()", x, x::openAddress, 1007);
+            Checks.due("openAddress()", x.openAddress(), 1007);
             Checks.due("baseOf(1007)", x.baseOf(1007), 0);
             Checks.due("alloc(0, 0, 1), not there", x.alloc(0, 0, 1), 1008);
-            Checks.looks("openAddress()", x, x::openAddress, 1010);
+            Checks.due("openAddress()", x.openAddress(), 1010);
         }
         MostlyCopying y = new MostlyCopying(2, 60);
         y.alloc(0, 2, 1);
@@ -96,6 +97,6 @@ public final class Promise15OpenAddressTest {
         }
         y.setRoot(1, 0);
         y.collect();
-        Checks.looks("openAddress() behind moved ones", y, y::openAddress, 1023);
+        Checks.due("openAddress() behind moved ones", y.openAddress(), 1023);
     }
 }

@@ -3,6 +3,7 @@ public final class Promise16WordsUsedTest {
         sumsAllPresentObjects();
         unusedWordsDoNotCount();
         neverAboveTheCapacity();
+        WordReads.changeNothing("wordsUsed", MostlyCopying::wordsUsed);
         Checks.finish();
     }
 
@@ -10,20 +11,20 @@ public final class Promise16WordsUsedTest {
         Checks.sentence("`wordsUsed()` answers the sum of the sizes of all present objects, "
                 + "unreachable ones included.");
         MostlyCopying x = new MostlyCopying(2, 60);
-        Checks.looks("wordsUsed() of none", x, x::wordsUsed, 0);
+        Checks.due("wordsUsed() of none", x.wordsUsed(), 0);
         int sum = 0;
         for (int[] shape : Heaps.SHAPES) {
             x.alloc(0, shape[0], shape[1]);
             sum += 1 + shape[0] + shape[1];
-            Checks.looks("wordsUsed()", x, x::wordsUsed, sum);
+            Checks.due("wordsUsed()", x.wordsUsed(), sum);
             x.setRoot(0, 0);
-            Checks.looks("wordsUsed(), an unreachable one more", x, x::wordsUsed, sum);
+            Checks.due("wordsUsed(), an unreachable one more", x.wordsUsed(), sum);
             x.alloc(0, 2, 2);
             x.alloc(2, 1, 0);
-            Checks.looks("wordsUsed(), refused allocs", x, x::wordsUsed, sum);
+            Checks.due("wordsUsed(), refused allocs", x.wordsUsed(), sum);
         }
         x.collect();
-        Checks.looks("wordsUsed(), all discarded", x, x::wordsUsed, 0);
+        Checks.due("wordsUsed(), all discarded", x.wordsUsed(), 0);
     }
 
     /** Of three pages with gaps, the first is pinned, and the objects of the others move. */
@@ -37,18 +38,18 @@ public final class Promise16WordsUsedTest {
             x.alloc(2, 0, 1);
             x.link(0, k, 1);
         }
-        Checks.looks("wordsUsed() on pages with gaps", x, x::wordsUsed, 17);
+        Checks.due("wordsUsed() on pages with gaps", x.wordsUsed(), 17);
         x.setRoot(1, 0);
         x.setRoot(2, 0);
         Checks.due("collect()", x.collect(), 2);
-        Checks.looks("wordsUsed() after moves", x, x::wordsUsed, 13);
+        Checks.due("wordsUsed() after moves", x.wordsUsed(), 13);
         x.setRoot(1, 1000);
         Checks.due("collect()", x.collect(), 0);
-        Checks.looks("wordsUsed() after moves", x, x::wordsUsed, 13);
+        Checks.due("wordsUsed() after moves", x.wordsUsed(), 13);
         x.setRoot(2, 0);
         x.link(0, 0, 2);
         Checks.due("collect()", x.collect(), 1);
-        Checks.looks("wordsUsed()", x, x::wordsUsed, 9);
+        Checks.due("wordsUsed()", x.wordsUsed(), 9);
     }
 
     private static void neverAboveTheCapacity() {

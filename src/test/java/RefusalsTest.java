@@ -1,4 +1,3 @@
-import java.util.ArrayList;
 import java.util.List;
 
 /** The terms about refusals, for every call that can be refused and each of its reasons. */
@@ -46,7 +45,7 @@ public final class RefusalsTest {
             refuseInPut(x);
             refuseInLink(x);
             refuseInLoad(x);
-            goesOnAsIfNeverCalled(x, heap(stale));
+            Heaps.goOnAlike("refused calls", x, heap(stale));
         }
     }
 
@@ -118,35 +117,19 @@ public final class RefusalsTest {
             String call = "alloc(1, " + s[0] + ", " + s[1] + ")";
             Checks.refused(call, x, () -> x.alloc(1, s[0], s[1]), -6);
         }
-        goesOnAsIfNeverCalled(x, y);
+        Heaps.goOnAlike("refused calls", x, y);
     }
 
     private static void changesNothingWhenSpent() {
         codeAndNoChange();
         MostlyCopying x = Heaps.spent(3, 3);
         for (int[] s : Heaps.SHAPES) {
-            String call = "alloc(1, " + s[0] + ", " + s[1] + ")";
-            Checks.refused(call, x, () -> x.alloc(1, s[0], s[1]), -7);
+            // Root 0 holds the start of an object, root 1 holds 0.
+            String shape = s[0] + ", " + s[1] + ")";
+            Checks.refused("alloc(0, " + shape, x, () -> x.alloc(0, s[0], s[1]), -7);
+            Checks.refused("alloc(1, " + shape, x, () -> x.alloc(1, s[0], s[1]), -7);
         }
-        goesOnAsIfNeverCalled(x, Heaps.spent(3, 3));
-    }
-
-    /** What no method shows, such as the next serial, is seen by going on. */
-    private static void goesOnAsIfNeverCalled(MostlyCopying x, MostlyCopying twin) {
-        Checks.that("a heap with refused calls goes on as one without", goOn(x).equals(goOn(twin)));
-    }
-
-    private static List<Integer> goOn(MostlyCopying x) {
-        List<Integer> answers = new ArrayList<>();
-        for (int n = 0; n < 24; n++) {
-            int[] shape = Heaps.SHAPES[n % 9];
-            answers.add(x.alloc(n % 2, shape[0], shape[1]));
-            answers.add(x.serialAt(x.root(n % 2)));
-            answers.add(x.link(0, n % 3, 1));
-            answers.add(n % 7 == 6 ? x.collect() : x.wordsUsed());
-        }
-        answers.addAll(Checks.state(x));
-        return answers;
+        Heaps.goOnAlike("refused calls", x, Heaps.spent(3, 3));
     }
 
     private static void inOrder() {

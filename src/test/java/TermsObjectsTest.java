@@ -3,11 +3,13 @@ import java.util.List;
 /** The terms about words, pages, objects, serials, presence and what is inside. */
 public final class TermsObjectsTest {
     public static void main(String[] args) {
+        addressesBeginAtTheOrigin();
         noOtherIntIsAnAddress();
         pagesHaveEightAddresses();
         shapesAreFixedAtBirth();
         sizesAreTwoToFour();
         objectsLieOnOnePage();
+        fieldsLieBehindTheHeader();
         kindsOfFields();
         noOtherFields();
         pointerFieldsHoldStarts();
@@ -22,6 +24,22 @@ public final class TermsObjectsTest {
         Checks.finish();
     }
 
+    /** No run of calls gets an object to the last pages, so 1255 can only be seen to be empty. */
+    private static void addressesBeginAtTheOrigin() {
+        Checks.sentence("Words have the addresses 1000 to 1255.");
+        MostlyCopying x = new MostlyCopying(2, 60);
+        Checks.due("alloc(0, 0, 1)", x.alloc(0, 0, 1), 1000);
+        Checks.due("baseOf(999)", x.baseOf(999), 0);
+        Checks.due("baseOf(1000)", x.baseOf(1000), 1000);
+        Checks.due("baseOf(1255)", x.baseOf(1255), 0);
+        Checks.due("baseOf(1256)", x.baseOf(1256), 0);
+        x.setRoot(0, 1255);
+        x.setRoot(1, 1256);
+        Checks.due("load(0, 0, 0) through 1255", x.load(0, 0, 0), -2);
+        Checks.due("load(0, 1, 0) through 1256", x.load(0, 1, 0), -2);
+        Checks.due("collect() with the roots 1255 and 1256", x.collect(), 1);
+    }
+
     private static void noOtherIntIsAnAddress() {
         Checks.sentence("No other int is an address; so 0, negative ints and ints above 1255 are "
                 + "not addresses.");
@@ -30,8 +48,8 @@ public final class TermsObjectsTest {
             x.alloc(0, 1, 2);
             x.alloc(1, 1, 2);
             x.setRoot(2, word);
-            Checks.looks("baseOf(" + word + ")", x, () -> x.baseOf(word), 0);
-            Checks.looks("serialAt(" + word + ")", x, () -> x.serialAt(word), 0);
+            Checks.due("baseOf(" + word + ")", x.baseOf(word), 0);
+            Checks.due("serialAt(" + word + ")", x.serialAt(word), 0);
             Checks.refused("put through " + word, x, () -> x.put(2, 1, 9), -2);
             Checks.refused("link through " + word, x, () -> x.link(2, 0, 0), -2);
             Checks.refused("load through " + word, x, () -> x.load(0, 2, 0), -2);
@@ -94,6 +112,11 @@ public final class TermsObjectsTest {
             int size = 1 + shape[0] + shape[1];
             Checks.due("wordsUsed()", x.wordsUsed(), size);
             Checks.due("openAddress()", x.openAddress(), 1000 + size);
+            int inside = 0;
+            for (int word = 1000; word < 1256; word++) {
+                inside += x.serialAt(word) == 1 ? 1 : 0;
+            }
+            Checks.due("number of words inside it", inside, size);
             Checks.due("start of the next", x.alloc(0, 0, 1), 1000 + size);
         }
     }
@@ -103,7 +126,7 @@ public final class TermsObjectsTest {
         for (int[] shape : Heaps.SHAPES) {
             MostlyCopying x = new MostlyCopying(2, 60);
             x.alloc(0, 0, 2);
-            while (x.wordsUsed() + 1 + shape[0] + shape[1] <= 60) {
+            for (int n = 0; n < 14; n++) {
                 int start = x.alloc(0, shape[0], shape[1]);
                 int last = start + shape[0] + shape[1];
                 for (int word = start; word <= last; word++) {
@@ -112,6 +135,22 @@ public final class TermsObjectsTest {
                 Checks.due("baseOf() after it", x.baseOf(last + 1), 0);
                 Checks.due("page of " + last, (last - 1000) / 8, (start - 1000) / 8);
             }
+        }
+    }
+
+    private static void fieldsLieBehindTheHeader() {
+        Checks.sentence("Field k lies at address start + 1 + k.");
+        for (int[] shape : Heaps.SHAPES) {
+            MostlyCopying x = new MostlyCopying(2, 60);
+            x.alloc(0, 0, 1);
+            int start = x.alloc(1, shape[0], shape[1]);
+            int fields = shape[0] + shape[1];
+            for (int k = 0; k < fields; k++) {
+                Checks.due("baseOf() of field " + k, x.baseOf(start + 1 + k), start);
+            }
+            Checks.due("baseOf() behind the last field", x.baseOf(start + 1 + fields), 0);
+            Checks.due("baseOf() of its header", x.baseOf(start), start);
+            Checks.due("baseOf() before its header", x.baseOf(start - 1), 1000);
         }
     }
 
@@ -145,7 +184,7 @@ public final class TermsObjectsTest {
                 Checks.refused("put(1, " + k + ", 9)", x, () -> x.put(1, k, 9), -3);
                 Checks.refused("link(1, " + k + ", 0)", x, () -> x.link(1, k, 0), -3);
                 Checks.refused("load(2, 1, " + k + ")", x, () -> x.load(2, 1, k), -3);
-                Checks.looks("field(start, " + k + ")", x, () -> x.field(start, k), 0);
+                Checks.due("field(start, " + k + ")", x.field(start, k), 0);
             }
         }
     }

@@ -134,6 +134,17 @@ public final class TermsPlacingTest {
         Checks.due("alloc of 2 words takes page 4", x.alloc(3, 0, 1), 1032);
         Checks.due("baseOf(1014), unused", x.baseOf(1014), 0);
         Checks.due("baseOf(1015), unused", x.baseOf(1015), 0);
+        MostlyCopying y = new MostlyCopying(2, 60);
+        y.alloc(0, 1, 2);
+        y.alloc(1, 0, 3);
+        y.alloc(1, 0, 3);
+        y.link(0, 0, 1);
+        y.setRoot(1, 0);
+        y.collect();
+        Checks.due("openAddress(), page 2 is open", y.openAddress(), 1020);
+        Checks.due("alloc of 3 words", y.alloc(1, 0, 2), 1020);
+        Checks.due("alloc of 2 words takes page 1, below", y.alloc(1, 0, 1), 1008);
+        Checks.due("alloc of 2 words, page 1 is open now", y.alloc(1, 0, 1), 1010);
     }
 
     private static void everyFreePageInAlloc() {

@@ -37,7 +37,7 @@ public final class TermsRootsTest {
                 Checks.refused("link(0, 0, " + bad + ")", x, () -> x.link(0, 0, bad), -1);
                 Checks.refused("load(" + bad + ", 0, 0)", x, () -> x.load(bad, 0, 0), -1);
                 Checks.refused("load(0, " + bad + ", 0)", x, () -> x.load(0, bad, 0), -1);
-                Checks.looks("root(" + bad + ")", x, () -> x.root(bad), 0);
+                Checks.due("root(" + bad + ")", x.root(bad), 0);
             }
             int last = n - 1;
             Checks.due("alloc(n - 1, 1, 1)", x.alloc(last, 1, 1), 1003);

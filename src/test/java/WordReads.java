@@ -1,5 +1,6 @@
 import java.util.ArrayList;
 import java.util.List;
+import java.util.function.Consumer;
 
 /** A heap for the promises that read through any int, with what lies at each of its words. */
 final class WordReads {
@@ -32,6 +33,18 @@ final class WordReads {
         x.collect();
         x.alloc(3, 2, 0);
         return x;
+    }
+
+    /** The heap goes on after these reading calls as it does without them. */
+    static void changeNothing(String calls, Consumer<MostlyCopying> reading) {
+        Checks.sentence("Nothing changes.");
+        MostlyCopying x = heap();
+        List<Integer> before = Checks.state(x);
+        reading.accept(x);
+        Checks.unchanged(calls, x, before);
+        MostlyCopying y = heap();
+        reading.accept(y);
+        Heaps.goOnAlike(calls, y, heap());
     }
 
     /** The row of OBJECTS that the word is inside; zeros where it is inside none. */
