@@ -273,11 +273,13 @@ public final class MostlyCopying {
     private int lowestFreePage() {
         // At most 20 pages are in use before a call and at most 12 are taken in it, so the last
         // page is free whenever all the others are not.
-        int page = 0;
-        while (page < PAGES - 1 && occupied[page] != 0) {
-            page++;
+        int last = PAGES - 1;
+        for (int page = 0; page < last; page++) {
+            if (occupied[page] == 0) {
+                return page;
+            }
         }
-        return page;
+        return last;
     }
 
     private void settle(int serial, int start) {
@@ -329,7 +331,8 @@ public final class MostlyCopying {
         // keep() lengthens the list while this loop goes through it.
         for (int at = 0; at < MOST_OBJECTS && at < keptCount; at++) {
             int serial = kept[at];
-            for (int k = 0; k < pointerCounts[serial]; k++) {
+            int pointers = pointerCounts[serial];
+            for (int k = 0; k < pointers; k++) {
                 int index = fieldIndex(serial, k);
                 int target = ownerOf(words[index]);
                 keep(target);
@@ -347,7 +350,8 @@ public final class MostlyCopying {
     }
 
     private boolean isKept(int serial) {
-        for (int at = 0; at < keptCount; at++) {
+        int count = keptCount;
+        for (int at = 0; at < count; at++) {
             if (kept[at] == serial) {
                 return true;
             }
@@ -357,7 +361,8 @@ public final class MostlyCopying {
 
     private void moveKeptObjects() {
         openPage = NO_PAGE;
-        for (int at = 0; at < keptCount; at++) {
+        int count = keptCount;
+        for (int at = 0; at < count; at++) {
             int serial = kept[at];
             if (condemned[pageOf(starts[serial])]) {
                 move(serial);
@@ -379,9 +384,11 @@ public final class MostlyCopying {
     }
 
     private void redirectPointers() {
-        for (int at = 0; at < keptCount; at++) {
+        int count = keptCount;
+        for (int at = 0; at < count; at++) {
             int serial = kept[at];
-            for (int k = 0; k < pointerCounts[serial]; k++) {
+            int pointers = pointerCounts[serial];
+            for (int k = 0; k < pointers; k++) {
                 int index = fieldIndex(serial, k);
                 int target = ownerOf(words[index]);
                 words[index] = starts[target];
@@ -402,7 +409,8 @@ public final class MostlyCopying {
     private int emptyPage(int page) {
         int discarded = 0;
         int first = firstAddress(page);
-        for (int address = first; address < first + PAGE_WORDS; address++) {
+        int end = first + PAGE_WORDS;
+        for (int address = first; address < end; address++) {
             int serial = ownerOf(address);
             // An object that moved has its start elsewhere by now, so only the others match.
             if (serial != NOBODY && starts[serial] == address) {

@@ -3,106 +3,109 @@ import java.lang.reflect.Constructor;
 import java.lang.reflect.Field;
 import java.lang.reflect.Method;
 import java.lang.reflect.Modifier;
-import java.nio.file.Files;
-import java.nio.file.Path;
 import java.util.HashSet;
 import java.util.Set;
 import java.util.TreeSet;
 import java.util.regex.Matcher;
 import java.util.regex.Pattern;
 
-/** The face of the class, and those rules of LANGUAGE.md that can be seen without much reading. */
+/** The face of the class, and those rules of LANGUAGE.md that its compiled members show. */
 public final class LanguageTest {
-    private static final Path SOURCE = Path.of("src/main/java/MostlyCopying.java");
+    private static final Set<Class<?>> TYPES = Set.of(
+            int.class, long.class, short.class, byte.class, char.class, boolean.class);
 
-    private static final Set<String> METHODS = Set.of(
-            "setRoot/2", "alloc/3", "put/3", "link/3", "load/3", "collect/0", "root/1", "baseOf/1",
-            "serialAt/1", "addressOf/1", "shapeAt/1", "field/2", "pageState/1", "openAddress/0",
-            "wordsUsed/0");
+    private static final Class<?> TYPE = MostlyCopying.class;
 
-    private static final Set<String> CONSTANTS = Set.of(
-            "ORIGIN", "PAGES", "PAGE_WORDS", "LAST_SERIAL", "OK", "BAD_ROOT", "NO_OBJECT",
-            "BAD_FIELD", "WRONG_KIND", "BAD_SHAPE", "FULL", "SPENT", "BAD_PAGE", "FREE", "MOBILE",
-            "PROMOTED");
-
-    private static final String[] BARRED = {
-        "import", "package", "throw", "throws", "try", "catch", "finally", "synchronized", "assert",
-        "instanceof", "null", "float", "double", "String", "Math", "Integer", "System", "Arrays",
-        "Object", "interface", "enum", "record", "protected", "length", "clone", "var", "->", "::"
-    };
-
-    public static void main(String[] args) throws IOException {
+    public static void main(String[] args) throws ReflectiveOperationException, IOException {
         face();
+        oneClass();
+        methods();
         fields();
-        source();
         Checks.finish();
     }
 
-    private static void face() {
-        Class<?> type = MostlyCopying.class;
-        Checks.that("public final class", type.getModifiers() == (Modifier.PUBLIC | Modifier.FINAL));
-        Checks.due("nested classes", type.getDeclaredClasses().length, 0);
-        Constructor<?>[] made = type.getDeclaredConstructors();
-        Checks.due("constructors", made.length, 1);
-        Checks.that("the constructor is public", Modifier.isPublic(made[0].getModifiers()));
-        Set<String> methods = new TreeSet<>();
-        Set<String> publicNames = new HashSet<>();
-        for (Method method : type.getDeclaredMethods()) {
-            Checks.that("at most seven parameters", method.getParameterCount() <= 7);
-            if (!Modifier.isPrivate(method.getModifiers())) {
-                Checks.that(method + " is due", method.getModifiers() == Modifier.PUBLIC);
-                Checks.that(method + " answers int", method.getReturnType() == int.class);
-                methods.add(method.getName() + "/" + method.getParameterCount());
-                publicNames.add(method.getName());
+    /** The document's "The public face" and the public members are the same, values included. */
+    private static void face() throws ReflectiveOperationException, IOException {
+        String due = Texts.block(Texts.of(Texts.DOCUMENT), "## The public face");
+        Set<String> wanted = new TreeSet<>();
+        Matcher member = Pattern.compile("(?m)^    (public [^;]*);").matcher(due);
+        while (member.find()) {
+            wanted.add(member.group(1).replaceAll("int \\w+(?=[,)])", "int"));
+        }
+        Set<String> seen = new TreeSet<>();
+        for (Field field : TYPE.getFields()) {
+            seen.add(Modifier.toString(field.getModifiers()) + " " + field.getType() + " "
+                    + field.getName() + " = " + field.get(null));
+        }
+        for (Constructor<?> made : TYPE.getConstructors()) {
+            seen.add(made.toString().replace(",", ", "));
+        }
+        for (Method method : TYPE.getDeclaredMethods()) {
+            if (Modifier.isPublic(method.getModifiers())) {
+                seen.add(method.toString().replace("MostlyCopying.", "").replace(",", ", "));
             }
         }
-        Checks.that("public methods are " + METHODS + ": " + methods, methods.equals(METHODS));
-        for (Method method : type.getDeclaredMethods()) {
-            boolean hides = Modifier.isPrivate(method.getModifiers())
-                    && publicNames.contains(method.getName());
-            Checks.that("no private method bears a public name: " + method, !hides);
+        Checks.due("public members in the document", wanted.size(), 32);
+        for (String line : wanted) {
+            Checks.that("there is " + line, seen.contains(line));
         }
+        for (String line : seen) {
+            Checks.that("the document has " + line, wanted.contains(line));
+        }
+    }
+
+    private static void oneClass() {
+        Checks.that("public final class", TYPE.getModifiers() == (Modifier.PUBLIC | Modifier.FINAL));
+        Checks.that("no package", TYPE.getPackageName().isEmpty());
+        Checks.that("no other class above", TYPE.getSuperclass() == Object.class);
+        Checks.due("interfaces", TYPE.getInterfaces().length, 0);
+        Checks.due("nested classes", TYPE.getDeclaredClasses().length, 0);
+        Checks.due("constructors", TYPE.getDeclaredConstructors().length, 1);
+    }
+
+    private static void methods() {
+        Set<String> publicNames = new HashSet<>();
+        for (Method method : TYPE.getMethods()) {
+            publicNames.add(method.getName());
+        }
+        for (Method method : TYPE.getDeclaredMethods()) {
+            Checks.that("at most seven parameters: " + method, method.getParameterCount() <= 7);
+            Class<?> answer = method.getReturnType();
+            Checks.that("answers a number or nothing: " + method,
+                    answer == void.class || TYPES.contains(answer));
+            for (Class<?> parameter : method.getParameterTypes()) {
+                Checks.that("takes numbers and arrays of them: " + method, isAllowed(parameter));
+            }
+            boolean isPrivate = Modifier.isPrivate(method.getModifiers());
+            Checks.that("public or private: " + method,
+                    isPrivate || Modifier.isPublic(method.getModifiers()));
+            Checks.that("no private method bears a public name: " + method,
+                    !isPrivate || !publicNames.contains(method.getName()));
+        }
+    }
+
+    private static boolean isAllowed(Class<?> type) {
+        return TYPES.contains(type) || type.isArray() && TYPES.contains(type.getComponentType());
     }
 
     private static void fields() {
-        Set<String> constants = new TreeSet<>();
         int others = 0;
-        for (Field field : MostlyCopying.class.getDeclaredFields()) {
+        for (Field field : TYPE.getDeclaredFields()) {
             int modifiers = field.getModifiers();
+            Checks.that("a number or an array of them: " + field, isAllowed(field.getType()));
             if (Modifier.isStatic(modifiers)) {
-                boolean constant = Modifier.isFinal(modifiers) && field.getType() == int.class;
-                Checks.that("a static field is an int constant: " + field, constant);
+                boolean number = field.getType() == int.class || field.getType() == long.class;
+                Checks.that("a static field is a constant: " + field,
+                        Modifier.isFinal(modifiers) && number);
+                Checks.that("public or private: " + field,
+                        Modifier.isPublic(modifiers) || Modifier.isPrivate(modifiers));
             } else {
                 others++;
                 Checks.that("a field is private: " + field, Modifier.isPrivate(modifiers));
-            }
-            if (!Modifier.isPrivate(modifiers)) {
-                Checks.that("a constant is public: " + field, Modifier.isPublic(modifiers));
-                constants.add(field.getName());
+                Checks.that("no method can assign to an array field: " + field,
+                        Modifier.isFinal(modifiers) || !field.getType().isArray());
             }
         }
-        Checks.that("public constants are " + CONSTANTS, constants.equals(CONSTANTS));
         Checks.that("at most forty fields", others <= 40);
-    }
-
-    private static void source() throws IOException {
-        String code = Files.readString(SOURCE)
-                .replaceAll("(?s)/\\*.*?\\*/", "").replaceAll("//[^\n]*", "");
-        for (String word : BARRED) {
-            String sought = Character.isLetter(word.charAt(0)) ? "\\b" + word + "\\b" : word;
-            Checks.that("no " + word, !Pattern.compile(sought).matcher(code).find());
-        }
-        Matcher made = Pattern.compile("\\bnew\\b").matcher(code);
-        Matcher inField = Pattern.compile(
-                "\n    private final \\w+\\[\\] \\w+ = new \\w+\\[[A-Z_]+\\];").matcher(code);
-        Checks.due("arrays made outside the fields' initialisers",
-                (int) (made.results().count() - inField.results().count()), 0);
-        // A name before a bracket is a call, but for these words.
-        String call = "\\b(?!if\\b|for\\b|while\\b|switch\\b|return\\b)[a-z]\\w*\\(";
-        Pattern nested = Pattern.compile(call + "[^();{}]*" + call);
-        for (String line : code.split("[;{}]")) {
-            Checks.that("no call in the arguments of another: " + line.strip(),
-                    !nested.matcher(line).find());
-        }
     }
 }

@@ -74,8 +74,8 @@ public final class TermsPlacingTest {
     }
 
     private static void fillsTheOpenPage() {
-        Checks.sentence("To place an object of size s: if there is an open page and u words of it "
-                + "are occupied, with u + s <= 8, the object starts at the open page's first "
+        Checks.sentence("**To place** an object of size s: if there is an open page and u words of "
+                + "it are occupied, with u + s <= 8, the object starts at the open page's first "
                 + "address plus u.");
         for (int u = 2; u <= 8; u++) {
             for (int s = 2; s <= 4; s++) {
